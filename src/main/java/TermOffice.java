@@ -627,7 +627,7 @@ public final class TermOffice {
             return gradeCount;
         }
 
-        /** Looks at the grades itself: rule 11 keeps the calls that stand open few. */
+        /** Calls nothing: it stands at the end of the longest chain of calls (rule 11). */
         int score(int term) {
             int sum = 0;
             int gradeCount = 0;
@@ -640,7 +640,10 @@ public final class TermOffice {
             }
             int graded = gradeCount > 0 ? 10 * sum / gradeCount : USUAL_SCORE;
             int whole = graded + DEED_WEIGHT * deeds[term] - RECALL_LOSS * recalls[term];
-            return Math.max(0, Math.min(MOST_SCORE, whole));
+            if (whole < 0) {
+                return 0;
+            }
+            return whole > MOST_SCORE ? MOST_SCORE : whole;
         }
 
         int number(int term, int what) {
