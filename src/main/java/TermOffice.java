@@ -304,11 +304,7 @@ public final class TermOffice {
         if (c < FIRST_CHARACTER || c > LAST_CHARACTER) {
             return BAD;
         }
-        if (text.length >= MOST_CHARACTERS) {
-            return FULL;
-        }
-        text.append(c);
-        return text.length;
+        return text.append(c);
     }
 
     public int clear() {
@@ -367,11 +363,13 @@ public final class TermOffice {
         final int[] characters = new int[MOST_CHARACTERS];
         int length;
 
-        void append(int c) {
-            if (length < MOST_CHARACTERS) {
-                characters[length] = c;
-                length++;
+        int append(int c) {
+            if (length >= MOST_CHARACTERS) {
+                return FULL;
             }
+            characters[length] = c;
+            length++;
+            return length;
         }
 
         /** NONE if the text is a ballot. */
@@ -767,10 +765,8 @@ public final class TermOffice {
             return has(present, member);
         }
 
+        /** Only while there is room. */
         int admit(int key) {
-            if (memberCount >= MOST_MEMBERS) {
-                return FULL;
-            }
             int member = memberCount;
             keys[member] = key;
             memberCount++;

@@ -215,6 +215,13 @@ public final class ElectionTest {
         y.close();
         CHECKS.due("two of three are too few", y.office(), 0);
         y.undo();
+        y.set(4, 67);
+        CHECKS.due("two of three are less than 67 percent", y.close(), TermOffice.NONE);
+        y.undo();
+        y.set(4, 66);
+        CHECKS.due("two of three are 66 percent", y.close(), 2);
+        y.undo();
+        y.set(4, 100);
         Offices.cast(y, 2, "2");
         CHECKS.due("all who are present", y.close(), 2);
     }
@@ -326,6 +333,9 @@ public final class ElectionTest {
         Offices.elapse(x, 0, 10);
         CHECKS.due("equal reputations", x.member(0, 0), x.member(2, 0));
         CHECKS.due("2 has led fewer", tie(x, 0, 2), 2);
+        TermOffice z = Offices.easy(3);
+        Offices.elapse(z, 2, 10);
+        CHECKS.due("0 has led fewer", tie(z, 0, 2), 0);
         TermOffice y = Offices.easy(3);
         Offices.elect(y, 0);
         y.deed(true);

@@ -81,5 +81,18 @@ public final class EventsTest {
         CHECKS.due("events()", x.events(), 20);
         CHECKS.due("the one that was dropped is back", x.event(19, 0), 1);
         CHECKS.due("the latest", x.event(0, 0), 20);
+
+        TermOffice y = Offices.easy(2);
+        Offices.elect(y, 0);
+        y.set(0, 100);
+        y.set(4, 100);
+        y.pass(10);
+        fail(y, 17);
+        CHECKS.due("twenty events", y.events(), 20);
+        fail(y, 1);
+        CHECKS.due("the oldest that is kept then", y.event(19, 1), 2);
+        y.undo();
+        CHECKS.due("its kind is back", y.event(19, 1), 1);
+        CHECKS.due("its member is back", y.event(19, 2), 0);
     }
 }

@@ -86,6 +86,9 @@ public final class PetitionTest {
         CHECKS.due("undone: office()", x.office(), 2);
         CHECKS.due("undone: the first signature", x.member(4, 5), 1);
         CHECKS.due("undone: the second signature", x.member(3, 5), 0);
+        CHECKS.due("undone: not over", x.term(1, 3), TermOffice.NONE);
+        CHECKS.due("undone: not recalled", x.term(1, 5), 0);
+        CHECKS.due("undone: no score", x.term(1, 7), TermOffice.NONE);
     }
 
     private static void recalledByAnAbsence() {
@@ -162,6 +165,12 @@ public final class PetitionTest {
     }
 
     private static void aWholeShare() {
+        TermOffice y = ledBy0(4);
+        y.set(3, 67);
+        y.sign(1, true);
+        CHECKS.due("two of three are less than 67 percent", y.sign(2, true), 2);
+        y.set(3, 66);
+        isRecalled(y, "by two of three", 1);
         TermOffice x = ledBy0(3);
         x.set(3, 100);
         CHECKS.due("one of two", x.sign(1, true), 1);

@@ -40,9 +40,11 @@ public final class TextTest {
 
     private static void errorPlaces() {
         String[] texts = {"", "0>", "0>1>", " 0", "0 >1", "01", "0>>1", ">0", "0>0", "0>1>0",
-            "2", "0>2", "0>9", "a", "0>a", "0a", "/", ":", "0>1>", "0>1>4", "0>1 ", "0=1", "0?1"};
+            "2", "0>2", "0>9", "a", "0>a", "0a", "/", ":", "0>1>", "0>1>4", "0>1 ", "0=1", "0?1",
+            "P", "0>Q", "p>1"};
         int[] places = {0, 2, 4, 0, 1, 1, 2, 0, 2, 4,
-            0, 2, 2, 0, 2, 1, 0, 0, 4, 4, 3, 1, 1};
+            0, 2, 2, 0, 2, 1, 0, 0, 4, 4, 3, 1, 1,
+            0, 2, 0};
         TermOffice x = Offices.withMembers(4);
         x.open();
         Offices.nominate(x, 0, 1);
@@ -71,7 +73,14 @@ public final class TextTest {
         for (int k = 0; k < 10; k++) {
             CHECKS.due("ballot(0, " + k + ")", x.ballot(0, k), 9 - k);
         }
+        Offices.cast(x, 1, "3");
+        Offices.cast(x, 9, all);
         CHECKS.due("ballot(0, 10)", x.ballot(0, 10), TermOffice.NONE);
+        CHECKS.due("ballot(9, 10)", x.ballot(9, 10), TermOffice.NONE);
+        x.setPresent(8, false);
+        CHECKS.due("8 is gone from the long ballot", x.ballot(0, 1), 7);
+        CHECKS.due("its last candidate", x.ballot(0, 8), 0);
+        CHECKS.due("is shorter by one", x.ballot(0, 9), TermOffice.NONE);
     }
 
     private static void theBufferAndUndo() {
