@@ -1,7 +1,7 @@
 /** Compares answers with what is due, tells the wrong ones, and ends the test's program. */
 final class Checks {
     private int wrong;
-    private int made;
+    private long made;
 
     void due(String call, long got, long want) {
         made++;
