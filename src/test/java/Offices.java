@@ -55,6 +55,35 @@ final class Offices {
         return office.close();
     }
 
+    /** Elects the only candidate without any ballot, where no quorum is wanted. */
+    static int appoint(TermOffice office, int member) {
+        office.open();
+        office.nominate(member);
+        return office.close();
+    }
+
+    /** An easy office that is led by a member. */
+    static TermOffice ledBy(int member, int count) {
+        TermOffice office = easy(count);
+        appoint(office, member);
+        return office;
+    }
+
+    /** An easy office after a whole term of a member. */
+    static TermOffice afterATermOf(int member, int count) {
+        TermOffice office = ledBy(member, count);
+        office.pass(10);
+        return office;
+    }
+
+    /** An easy office with an open election, in which some members are nominated. */
+    static TermOffice opened(int count, int... candidates) {
+        TermOffice office = easy(count);
+        office.open();
+        nominate(office, candidates);
+        return office;
+    }
+
     static void elapse(TermOffice office, int member, int length) {
         elect(office, member);
         office.pass(length);
