@@ -1,3 +1,4 @@
+import java.io.IOException;
 import java.lang.reflect.Field;
 import java.lang.reflect.Member;
 import java.lang.reflect.Method;
@@ -8,19 +9,17 @@ import java.util.ArrayList;
 import java.util.List;
 import java.util.Set;
 import java.util.TreeSet;
+import java.util.regex.Matcher;
+import java.util.regex.Pattern;
 
 /** The public face, and those rules of LANGUAGE.md that a program can look at. */
 public final class LanguageTest {
     private static final Checks CHECKS = new Checks();
-    private static final String[] FACE = {
-        "int set(int,int)", "int join(int)", "int setPresent(int,boolean)", "int pass(int)", "int open()",
-        "int nominate(int)", "int cast(int)", "int close()", "int rounds()", "int tally(int,int)",
-        "int ballot(int,int)", "int office()", "int holder()", "int deed(boolean)", "int sign(int,boolean)",
-        "int grade(int,int,int,int)", "int term(int,int)", "int points(int,int)", "int terms()",
-        "int member(int,int)", "int time()", "int events()", "int event(int,int)", "int type(int)",
-        "int clear()", "int undo()", "long fingerprint()"};
+    private static final Path DOCUMENT = Path.of("../shared/DOC.md");
+    private static final int METHODS = 27;
+    private static final int CONSTANTS = 6;
 
-    public static void main(String[] args) throws Exception {
+    public static void main(String[] args) throws IOException, IllegalAccessException {
         face();
         constants();
         names();
@@ -43,37 +42,58 @@ public final class LanguageTest {
         return text.append(")").toString();
     }
 
-    private static void face() {
+    /** The lines of the document's public face that match, a group of each. */
+    private static Set<String> faceOfTheDocument(String wanted) throws IOException {
+        Set<String> found = new TreeSet<>();
+        Matcher matcher = Pattern.compile("(?m)^    public " + wanted + ";$").matcher(Files.readString(DOCUMENT));
+        while (matcher.find()) {
+            found.add(matcher.group(1));
+        }
+        return found;
+    }
+
+    private static Set<String> methodsOfTheDocument() throws IOException {
+        Set<String> methods = new TreeSet<>();
+        for (String method : faceOfTheDocument("((?:int|long) \\w+\\(.*\\))")) {
+            methods.add(method.replaceAll("(int|boolean) \\w+(?=[,)])", "$1").replace(", ", ","));
+        }
+        return methods;
+    }
+
+    private static void face() throws IOException {
         Set<String> found = new TreeSet<>();
         for (Method method : TermOffice.class.getDeclaredMethods()) {
             if (!Modifier.isPrivate(method.getModifiers())) {
                 found.add(told(method));
                 CHECKS.holds(method + " is public", Modifier.isPublic(method.getModifiers()));
+                CHECKS.holds(method + " is an object's", !Modifier.isStatic(method.getModifiers()));
             }
         }
-        CHECKS.holds("the face's methods: " + found, found.equals(new TreeSet<>(List.of(FACE))));
+        CHECKS.due("methods in the document", methodsOfTheDocument().size(), METHODS);
+        CHECKS.holds("the face's methods: " + found, found.equals(methodsOfTheDocument()));
         int modifiers = TermOffice.class.getModifiers();
         CHECKS.holds("public and final", Modifier.isPublic(modifiers) && Modifier.isFinal(modifiers));
         CHECKS.due("constructors", TermOffice.class.getDeclaredConstructors().length, 1);
         CHECKS.due("public constructors", TermOffice.class.getConstructors().length, 1);
     }
 
-    private static void constants() throws Exception {
-        String[] names = {"BAD", "STATE", "FULL", "LIMIT", "FORGED", "NONE"};
-        int[] values = {-1, -2, -3, -4, -5, -9};
-        for (int i = 0; i < names.length; i++) {
-            CHECKS.due(names[i], TermOffice.class.getField(names[i]).getInt(null), values[i]);
-        }
-        int open = 0;
+    private static void constants() throws IOException, IllegalAccessException {
+        Set<String> found = new TreeSet<>();
         for (Field field : TermOffice.class.getDeclaredFields()) {
-            open += Modifier.isPrivate(field.getModifiers()) ? 0 : 1;
+            if (!Modifier.isPrivate(field.getModifiers())) {
+                CHECKS.holds(field + " is public", Modifier.isPublic(field.getModifiers()));
+                CHECKS.holds(field + " is an int", field.getType() == int.class);
+                found.add(field.getName() + " = " + field.getInt(null));
+            }
         }
-        CHECKS.due("fields that are not private", open, names.length);
+        Set<String> wanted = faceOfTheDocument("static final int (\\w+ = -\\d)");
+        CHECKS.due("constants in the document", wanted.size(), CONSTANTS);
+        CHECKS.holds("the face's constants: " + found, found.equals(wanted));
     }
 
-    private static void names() {
+    private static void names() throws IOException {
         Set<String> open = new TreeSet<>();
-        for (String method : FACE) {
+        for (String method : methodsOfTheDocument()) {
             open.add(method.substring(method.indexOf(' ') + 1, method.indexOf('(')));
         }
         for (Class<?> type : classes()) {
@@ -102,7 +122,7 @@ public final class LanguageTest {
         }
     }
 
-    private static void words() throws Exception {
+    private static void words() throws IOException {
         String source = Files.readString(Path.of("src/main/java/TermOffice.java"));
         String[] forbidden = {"\\bthrow\\b", "\\btry\\b", "\\bcatch\\b", "\\bsynchronized\\b", "\\bassert\\b",
             "\\bpackage\\b", "->", "::", "Exact\\(", "\\binstanceof\\b", "\\bdouble\\b", "\\bfloat\\b",
